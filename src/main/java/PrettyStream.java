@@ -115,7 +115,8 @@ public final class PrettyStream {
     }
 
     public int rows() {
-        return rowsFor(chosenWidth);
+        layOut(chosenWidth);
+        return presentRow + 1;
     }
 
     public int widest() {
@@ -127,7 +128,8 @@ public final class PrettyStream {
         // Every width is tried in turn, because a greater width can also need more rows:
         // a group that becomes flat can push a later one over the edge.
         for (int width = NARROWEST; width <= BROADEST; width++) {
-            if (rowsFor(width) <= rows) {
+            layOut(width);
+            if (presentRow + 1 <= rows) {
                 return width;
             }
         }
@@ -156,11 +158,6 @@ public final class PrettyStream {
         groupOf[pieces] = innermost;
         pieces++;
         return pieces;
-    }
-
-    private int rowsFor(int width) {
-        layOut(width);
-        return presentRow + 1;
     }
 
     private void layOut(int width) {

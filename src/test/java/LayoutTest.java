@@ -124,8 +124,9 @@ public final class LayoutTest {
     }
 
     private static void groupsInsideFlatGroups() {
-        // Laid out by itself the inner group would reach column 10; the outer one, closed before
-        // the word of 6, is what counts the same way, so both turn at one width.
+        // The word of 6 is in the reach of both groups, so both turn at the same width. (An outer
+        // reach always covers the inner ones: no document has an inner group that would be broken
+        // by its own reach inside a flat one.)
         PrettyStream x = Checks.made(10, "(0 1 (0 1 / 1 ) ) 6");
         Checks.due("outer at 10", x.flat(0), 1);
         Checks.due("inner at 10", x.flat(2), 1);

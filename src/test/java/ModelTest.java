@@ -31,18 +31,20 @@ public final class ModelTest {
         // Short words leave more groups near the edge; slow growth asks more between the pieces.
         int longest = run % 2 == 0 ? 5 : 21;
         int growth = 2 + run % 9;
+        // Few closes let some runs come to twelve groups without a close.
+        int closes = run % 3 == 0 ? 0 : 2;
         for (int call = 0; call < CALLS; call++) {
             String where = "run " + run + ", call " + call + ": ";
             if (below(growth) == 0) {
-                grow(where, program, model, longest);
+                grow(where, program, model, longest, closes);
             } else {
                 ask(where, program, model);
             }
         }
     }
 
-    private void grow(String where, PrettyStream program, Model model, int longest) {
-        int kind = below(10);
+    private void grow(String where, PrettyStream program, Model model, int longest, int closes) {
+        int kind = below(9 + closes);
         if (kind < 3) {
             int length = number(0, longest);
             Checks.due(where + "word(" + length + ")", program.word(length), model.word(length));
