@@ -19,20 +19,15 @@ public final class LayoutTest {
         Checks.end();
     }
 
-    private static void at(PrettyStream x, int piece, int row, int column) {
-        Checks.due("row(" + piece + ")", x.row(piece), row);
-        Checks.due("column(" + piece + ")", x.column(piece), column);
-    }
-
     private static void breaksInNoGroup() {
         PrettyStream x = Checks.made(100, "3 / 4 5 / / 1");
-        at(x, 0, 0, 0);
-        at(x, 1, 0, 3);
-        at(x, 2, 1, 0);
-        at(x, 3, 1, 4);
-        at(x, 4, 1, 9);
-        at(x, 5, 2, 0);
-        at(x, 6, 3, 0);
+        Checks.at(x, 0, 0, 0);
+        Checks.at(x, 1, 0, 3);
+        Checks.at(x, 2, 1, 0);
+        Checks.at(x, 3, 1, 4);
+        Checks.at(x, 4, 1, 9);
+        Checks.at(x, 5, 2, 0);
+        Checks.at(x, 6, 3, 0);
         Checks.due("rows", x.rows(), 4);
         Checks.due("widest", x.widest(), 9);
     }
@@ -40,30 +35,30 @@ public final class LayoutTest {
     private static void flatAndBrokenGroup() {
         PrettyStream x = Checks.made(9, "(3 4 / 4 )");
         Checks.due("flat at 9", x.flat(0), 1);
-        at(x, 2, 0, 4);
-        at(x, 3, 0, 5);
-        at(x, 4, 0, 9);
+        Checks.at(x, 2, 0, 4);
+        Checks.at(x, 3, 0, 5);
+        Checks.at(x, 4, 0, 9);
         Checks.due("rows at 9", x.rows(), 1);
         Checks.due("widest at 9", x.widest(), 9);
         x.width(8);
         Checks.due("flat at 8", x.flat(0), 0);
-        at(x, 2, 0, 4);
-        at(x, 3, 1, 3);
-        at(x, 4, 1, 7);
+        Checks.at(x, 2, 0, 4);
+        Checks.at(x, 3, 1, 3);
+        Checks.at(x, 4, 1, 7);
         Checks.due("rows at 8", x.rows(), 2);
         Checks.due("widest at 8", x.widest(), 7);
     }
 
     private static void endsOfGroupsStandWhereTheyAre() {
         PrettyStream x = Checks.made(1, "2 (5 3 / (1 ) 4 ) 1");
-        at(x, 1, 0, 2);
-        at(x, 2, 0, 2);
-        at(x, 3, 0, 5);
-        at(x, 4, 1, 5);
-        at(x, 5, 1, 5);
-        at(x, 6, 1, 5);
-        at(x, 7, 1, 9);
-        at(x, 8, 1, 9);
+        Checks.at(x, 1, 0, 2);
+        Checks.at(x, 2, 0, 2);
+        Checks.at(x, 3, 0, 5);
+        Checks.at(x, 4, 1, 5);
+        Checks.at(x, 5, 1, 5);
+        Checks.at(x, 6, 1, 5);
+        Checks.at(x, 7, 1, 9);
+        Checks.at(x, 8, 1, 9);
     }
 
     private static void reachGoesOnToTheNextBreak() {
@@ -101,7 +96,7 @@ public final class LayoutTest {
         x.width(8);
         Checks.due("all to the end at 8", x.flat(0), 0);
         Checks.due("the inner one at 8", x.flat(3), 1);
-        at(x, 3, 1, 2);
+        Checks.at(x, 3, 1, 2);
         x.width(7);
         Checks.due("the inner one at 7", x.flat(3), 0);
         Checks.fill(x, ") / 6");
@@ -144,15 +139,15 @@ public final class LayoutTest {
         PrettyStream x = Checks.made(7, "(1 3 / (2 2 / 2 ) / 3 )");
         Checks.due("outer", x.flat(0), 0);
         Checks.due("inner", x.flat(3), 1);
-        at(x, 4, 1, 1);
-        at(x, 5, 1, 3);
-        at(x, 6, 1, 4);
-        at(x, 8, 1, 6);
-        at(x, 9, 2, 1);
+        Checks.at(x, 4, 1, 1);
+        Checks.at(x, 5, 1, 3);
+        Checks.at(x, 6, 1, 4);
+        Checks.at(x, 8, 1, 6);
+        Checks.at(x, 9, 2, 1);
         Checks.due("rows", x.rows(), 3);
         x.width(5);
         Checks.due("inner at 5", x.flat(3), 0);
-        at(x, 6, 2, 3);
+        Checks.at(x, 6, 2, 3);
         Checks.due("rows at 5", x.rows(), 4);
     }
 
@@ -166,7 +161,7 @@ public final class LayoutTest {
             int number = x.lineBreak();
             x.word(1);
             row++;
-            at(x, number, row, margin);
+            Checks.at(x, number, row, margin);
         }
         Checks.due("rows of twelve depths", x.rows(), 13);
         Checks.due("widest of twelve depths", x.widest(), margin + 1);
@@ -176,10 +171,10 @@ public final class LayoutTest {
         PrettyStream x = Checks.made(8, "(2 1 (8 1 / 1 ) / 9 )");
         Checks.due("outer", x.flat(0), 0);
         Checks.due("inner", x.flat(2), 1);
-        at(x, 8, 1, 2);
+        Checks.at(x, 8, 1, 2);
         // The margin is the sum of indents, whatever the column at the open.
         PrettyStream y = Checks.made(1, "5 (2 3 / 1 )");
-        at(y, 4, 1, 2);
+        Checks.at(y, 4, 1, 2);
     }
 
     private static void flatOfOtherPieces() {
@@ -198,7 +193,7 @@ public final class LayoutTest {
             Checks.due("column(" + piece + ")", x.column(piece), -1);
             Checks.due("flat(" + piece + ")", x.flat(piece), -1);
         }
-        at(x, 3, 0, 2);
+        Checks.at(x, 3, 0, 2);
     }
 
     private static void widestPlaces() {
